@@ -475,12 +475,15 @@ public final class NotLikeThem {
             }
         }
 
-        /** The SUM of a PERSON in each DRESS: each half of the row tells the one twice as long. */
+        /** The SUM of a PERSON in each DRESS: with each other one the row grows to twice as long. */
         private void fillSums(int person) {
-            sums[0] = sumOf(person, 0);
+            int[] row = weights[person];
+            int sum = leans[person];
+            for (int other = 0; other < size; other++) sum -= row[other];
+            sums[0] = sum;
             for (int other = 0; other < size; other++) {
                 int half = 1 << other;
-                int more = 2 * weights[person][other];
+                int more = 2 * row[other];
                 for (int dress = 0; dress < half; dress++) sums[dress + half] = sums[dress] + more;
             }
         }
@@ -649,7 +652,10 @@ public final class NotLikeThem {
         }
 
         int entered(int dress, int way) {
-            return behind(dress, way, stepsToRing(dress, way));
+            findRings(way);
+            int now = dress;
+            for (int i = 0; i < tail[dress]; i++) now = step[now];
+            return now;
         }
 
         int ringCount(int way) {

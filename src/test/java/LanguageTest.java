@@ -8,7 +8,9 @@ import java.nio.file.Path;
 import java.util.ArrayList;
 import java.util.Arrays;
 import java.util.List;
+import java.util.Map;
 import java.util.Set;
+import java.util.TreeMap;
 import java.util.TreeSet;
 import java.util.regex.Matcher;
 import java.util.regex.Pattern;
@@ -61,6 +63,7 @@ public final class LanguageTest {
         String text = withoutComments(Files.readString(Path.of("src/main/java/NotLikeThem.java")));
         words(text);
         methodsAreShort(text);
+        callsAreNotDeep(text);
         check.end();
     }
 
@@ -163,5 +166,28 @@ public final class LanguageTest {
             }
         }
         check.isTrue("the longest method has " + most + " lines", most > 5 && most <= 60);
+    }
+
+    /** Calls go at most eight deep, the public one and the library's too; methods of one name as one. */
+    private static void callsAreNotDeep(String text) {
+        Map<String, String> bodies = new TreeMap<>();
+        Matcher heads = Pattern.compile("(?m)^( {4}| {8})(?:[\\w\\[\\]]+ )*(\\w+)\\([^)]*\\) \\{$").matcher(text);
+        while (heads.find()) {
+            int end = text.indexOf("\n" + heads.group(1) + "}", heads.end());
+            bodies.merge(heads.group(2), text.substring(heads.end(), end), String::concat);
+        }
+        check.isTrue(bodies.size() + " methods", bodies.size() > 80);
+        int deepest = 0;
+        for (String name : bodies.keySet()) deepest = Math.max(deepest, depth(name, bodies, 0));
+        check.isTrue("calls go " + deepest + " deep", deepest > 3 && deepest <= 8);
+    }
+
+    private static int depth(String name, Map<String, String> bodies, int above) {
+        if (!bodies.containsKey(name)) return 1;
+        if (above > 20) return above;
+        int below = 0;
+        Matcher calls = Pattern.compile("\\b([a-zA-Z]\\w*)\\(").matcher(bodies.get(name));
+        while (calls.find()) below = Math.max(below, depth(calls.group(1), bodies, above + 1));
+        return 1 + below;
     }
 }

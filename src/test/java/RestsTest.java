@@ -194,6 +194,11 @@ public final class RestsTest {
         x.set(0, 0, 3);
         check.due("settled() TIRED", x.settled(), 0);
         check.due("witness() TIRED", x.witness(), 0);
+        // Here there are as many LONE CHANGES as there can be.
+        x.people(10);
+        for (int p = 0; p < 10; p++) x.set(p, 0, 3);
+        check.due("settled() ten TIRED", x.settled(), 0);
+        check.due("witness() ten TIRED", x.witness(), 0);
         x.people(10);
         for (int p = 0; p < 10; p++) x.tie(p, (p + 1) % 10, 1);
         check.due("settled() ten follow round", x.settled(), 0);
